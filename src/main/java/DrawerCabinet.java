@@ -895,7 +895,6 @@ public final class DrawerCabinet {
         }
 
         private boolean readHold() {
-            by[found] = NONE;
             if (readSign('h')) {
                 hold[found] = HANDLE;
                 return true;

@@ -13,6 +13,7 @@ public final class BuildingTests {
         promise2Order();
         promise3Answers();
         promise3Faults();
+        promise3Again();
         promise3Order();
         promise4();
         promise4Things();
@@ -48,12 +49,16 @@ public final class BuildingTests {
         Check.due("2: lever", x.build(1, 2, 15, 3), 2);
         Check.due("2: seal", x.build(1, 3, 1000, 4), 3);
         Check.due("2: a holder that is itself", x.build(NONE, 2, 4, 0), 4);
+        Check.due("2: the first drawer as holder", x.build(4, 2, 0, 0), 5);
+        Check.due("2: the first key", x.build(5, 1, 0, 0), 6);
         int[][] want = {
             {NONE, 0, NONE, 0, 0, 0, 0, 0, 1, 0, 0},
             {0, 1, 9, 9, 0, 0, 0, 0, 0, 0, 1},
             {1, 2, 15, 3, 0, 0, 0, 0, 0, 0, 2},
             {1, 3, NONE, 4, 0, 0, 0, 0, 0, 0, 2},
             {NONE, 2, 4, 0, 0, 0, 0, 0, 1, 0, 0},
+            {4, 2, 0, 0, 0, 0, 0, 0, 0, 0, 1},
+            {5, 1, 0, 0, 0, 0, 0, 0, 0, 0, 2},
         };
         for (int drawer = 0; drawer < want.length; drawer++) {
             for (int what = 0; what < want[drawer].length; what++) {
@@ -62,7 +67,7 @@ public final class BuildingTests {
         }
         Check.due("2: acts", x.count(9), 4);
         Check.due("2: undo", x.undo(), 3);
-        Check.due("2: undone", x.count(0), 4);
+        Check.due("2: undone", x.count(0), 6);
     }
 
     private static void promise2Errors() {
@@ -134,13 +139,13 @@ public final class BuildingTests {
             "", "c", "x", "C", "cx", "ch;", "ch;;", "ch ", "chh", "ck", "ck1", "ckx", "ck10", "cl", "cl1", "cl15",
             "cl16", "cl05", "cl20", "cl151", "cl9*", "clh", "ch*", "ch*0", "ch*1", "ch*3", "ch*4", "ch*11", "ch*1*1",
             "00h", "01h", "16h", "1", "15", "20h", "ch;1", "ch;0h;16h", "ch,ch", ";ch", "*1", "cs1", "cs*2;", "0",
-            "c0h", "h", "0h;", "cc", "ch\u00e9", "ch\u2028", "c\u0130",
+            "c0h", "h", "0h;", "cc", "ck:", "ck;", "ck/", "cl:", "cl;", "cl/", ":h", "/h", "cl10", "cl1:", "cl1/", "ch*/", "ch\u00e9", "ch\u2028", "c\u0130",
         };
         int[] faults = {
             0, 1, 0, 0, 1, 3, 3, 2, 2, 2, -1, 2, 3, 2, -1, -1,
             3, 3, 3, 4, 4, 2, 3, 3, -1, -1, 3, 4, 4,
             1, 1, 1, 1, 2, 1, 4, 7, 2, 0, 0, 2, 5, 1,
-            1, 0, 3, 1, 2, 2, 1,
+            1, 0, 3, 1, 2, 2, 2, 2, 2, 2, 0, 0, -1, 3, 3, 3, 2, 2, 1,
         };
         Check.due("3: the table", texts.length, faults.length);
         for (int i = 0; i < texts.length; i++) {
@@ -152,9 +157,30 @@ public final class BuildingTests {
         }
         DrawerCabinet x = new DrawerCabinet();
         Check.type(x, "ch;".repeat(20));
+        Check.due("3: what was read goes", x.count(0), 0);
         Check.due("3: a fault at the very end", x.buildAll(), -160);
         Check.type(x, "ch;".repeat(18) + "ch*3;c");
         Check.due("3: ends early at the very end", x.buildAll(), -160);
+    }
+
+    /** What was read before leaves no trace in the next reading. */
+    private static void promise3Again() {
+        DrawerCabinet x = Check.cabinet("cs*3;0l10*2;ch;1k7*1;0k0");
+        for (int hold = 0; hold < 4; hold++) {
+            x.undo();
+            Check.type(x, new String[] {"ch;0h;1h;2h", "ck2;0k3;1k4;2k5", "cl2;0l3;1l10;2l5", "cs;0s;1s;2s"}[hold]);
+            Check.due("3: again", x.buildAll(), 4);
+            for (int drawer = 0; drawer < 4; drawer++) {
+                int by = hold == 1 || (hold == 2 && drawer != 2) ? drawer + 2 : hold == 2 ? 10 : NONE;
+                Check.due("3: outer again", x.drawer(drawer, 0), drawer == 0 ? NONE : drawer - 1);
+                Check.due("3: hold again", x.drawer(drawer, 1), hold);
+                Check.due("3: by again", x.drawer(drawer, 2), by);
+                Check.due("3: stiffness again", x.drawer(drawer, 3), 0);
+                Check.due("3: bottoms again", x.drawer(drawer, 4), 0);
+            }
+        }
+        x = Check.cabinet("ch;".repeat(11) + "10h;10s");
+        Check.due("3: in the tenth", x.drawer(11, 0), 10);
     }
 
     private static void promise3Order() {
@@ -190,6 +216,10 @@ public final class BuildingTests {
         Check.due("4: 1 again", x.setBottoms(0, 1), NONE);
         Check.due("4: told", x.drawer(0, 4), 1);
         Check.due("4: acts", x.count(9), 3);
+        Check.due("4: to 0", x.setBottoms(0, 0), 1);
+        Check.due("4: 0 again", x.setBottoms(0, 0), NONE);
+        Check.due("4: undo", x.undo(), 3);
+        Check.due("4: undone", x.drawer(0, 4), 1);
         int[] drawers = {1, -1, NONE, 16, Integer.MIN_VALUE, Integer.MAX_VALUE};
         for (int drawer : drawers) {
             Check.due("4: drawer " + drawer, x.setBottoms(drawer, 9), UNKNOWN);
@@ -208,19 +238,19 @@ public final class BuildingTests {
     private static void promise4Things() {
         DrawerCabinet x = Check.cabinet("ch*3;ch*3");
         for (int thing = 0; thing < 4; thing++) {
-            x.lay(thing, 0, thing);
+            x.lay(3 - thing, 0, thing);
             x.lay(thing + 4, 1, thing);
         }
         x.setBottoms(0, 1);
-        int[] want = {0, 1, 1, 1, 0, 1, 2, 3, 0};
+        int[] want = {1, 1, 1, 0, 0, 1, 2, 3, 0};
         for (int thing = 0; thing < want.length; thing++) {
             Check.due("4: depth of " + thing, x.thing(thing, 1), want[thing]);
         }
         x.setBottoms(0, 3);
-        Check.due("4: it does not come down again", x.thing(3, 1), 1);
+        Check.due("4: it does not come down again", x.thing(0, 1), 1);
         x.undo();
         x.undo();
-        Check.due("4: undone", x.thing(3, 1), 3);
+        Check.due("4: undone", x.thing(0, 1), 3);
     }
 
     private static void promise5() {

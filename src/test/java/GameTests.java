@@ -67,6 +67,9 @@ public final class GameTests {
         x.giveUp();
         x.begin();
         Check.due("7: a new game has no steps", x.count(5), 0);
+        Check.due("7: and no minutes", x.minutes(), 0.0);
+        x.open(0);
+        Check.due("7: and its own bottoms", x.lift(0), NOT_POSSIBLE);
     }
 
     private static void promise8Holds() {
@@ -97,6 +100,7 @@ public final class GameTests {
         Check.due("8: steps", x.count(5), 8);
         x.undo();
         Check.due("8: undone", x.drawer(3, 6), 0);
+        Check.due("8: that alone", x.count(5), 7);
     }
 
     private static void promise8Errors() {
@@ -146,6 +150,7 @@ public final class GameTests {
         Check.due("9: steps", x.count(5), 8);
         x.undo();
         Check.due("9: undone", x.drawer(0, 6), 1);
+        Check.due("9: that alone", x.count(5), 7);
         DrawerCabinet y = Check.cabinet("ch;cl0");
         y.begin();
         y.open(0);
@@ -185,6 +190,7 @@ public final class GameTests {
         x.undo();
         x.undo();
         Check.due("10: undone", x.drawer(1, 5), 0);
+        Check.due("10: that alone", x.count(5), 6);
     }
 
     private static void promise11() {
@@ -223,6 +229,7 @@ public final class GameTests {
         x.undo();
         x.undo();
         Check.due("11: undone", x.thing(3, 2), 0);
+        Check.due("11: that alone", x.count(5), 10);
     }
 
     private static void promise12() {
@@ -256,5 +263,6 @@ public final class GameTests {
         Check.due("12: steps", x.count(5), 11);
         x.undo();
         Check.due("12: undone", x.count(4), 1);
+        Check.due("12: that alone", x.count(5), 10);
     }
 }

@@ -67,6 +67,11 @@ public final class TellingTests {
         dueDrawer("18: closed", x, 0, NONE, 3, NONE, 0, 2, 2, 0, 1, 1, 1, 0);
         dueDrawer("18: closed", x, 1, 0, 1, 7, 0, 0, 0, 1, 0, 0, 1, 1);
         dueDrawer("18: closed", x, 2, 1, 2, 0, 0, 0, 0, 0, 0, 0, 0, 2);
+        DrawerCabinet y = Check.cabinet("ch;ch");
+        for (int thing = 0; thing < 12; thing++) {
+            y.lay(thing, thing % 2, 0);
+            Check.due("18: things", y.drawer(thing % 2, 9), thing / 2 + 1);
+        }
     }
 
     private static void promise19() {
@@ -244,6 +249,17 @@ public final class TellingTests {
         x.open(6);
         x.close(5);
         Check.due("21: open, but not reached", x.hint(6), 105);
+        DrawerCabinet y = Check.cabinet("ch*1;ch*2;ck0;ch");
+        y.lay(0, 1, 1);
+        y.begin();
+        Check.due("21: no opening that is not needed", y.hint(3), 103);
+        y.open(0);
+        y.open(1);
+        Check.due("21: no taking that is not needed", y.hint(2), 210);
+        y.take(10);
+        Check.due("21: no lifting that is not needed", y.hint(2), 301);
+        y.lift(1);
+        Check.due("21: no second lifting", y.hint(2), 200);
     }
 
     private static void promise22And23() {

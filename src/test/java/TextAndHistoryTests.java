@@ -126,6 +126,42 @@ public final class TextAndHistoryTests {
         sameAs("17: all is as kept still", tell(x), kept);
         Check.due("17: the game is in it", x.begin(), NOT_POSSIBLE);
         Check.due("17: history", x.count(9), 4);
+        promise17OtherDrawers();
+    }
+
+    /** Another cabinet in the same rows comes wholly back. */
+    private static void promise17OtherDrawers() {
+        DrawerCabinet x = new DrawerCabinet();
+        x.build(NONE, 3, 0, 9);
+        x.build(0, 1, 4, 8);
+        x.build(1, 2, 0, 7);
+        x.setBottoms(2, 3);
+        x.lay(0, 2, 3);
+        x.lay(11, 1, 0);
+        x.keep();
+        int[] kept = tell(x);
+        while (x.undo() > 0) {
+            continue;
+        }
+        x.restore();
+        sameAs("17: all is as kept", tell(x), kept);
+        DrawerCabinet y = new DrawerCabinet();
+        y.keep();
+        y.build(NONE, 2, 5, 9);
+        y.build(0, 2, 6, 8);
+        y.build(0, 0, 0, 7);
+        y.restore();
+        y.build(NONE, 1, 1, 1);
+        y.keep();
+        y.undo();
+        y.build(NONE, 2, 2, 2);
+        y.restore();
+        int[] want = {NONE, 1, 1, 1, 0, 0, 0, 0, 1, 0, 0};
+        for (int what = 0; what < want.length; what++) {
+            Check.due("17: drawer(0, " + what + ")", y.drawer(0, what), want[what]);
+        }
+        y.undo();
+        Check.due("17: undone", y.drawer(0, 3), 2);
     }
 
     private static int[] tell(DrawerCabinet x) {
