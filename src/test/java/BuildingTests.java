@@ -1,290 +1,462 @@
-/** Promises 1 to 5: a new object, build, buildAll, setBottoms, lay. */
-public final class BuildingTests {
-    private static final int UNKNOWN = DrawerCabinet.UNKNOWN;
-    private static final int BAD_VALUE = DrawerCabinet.BAD_VALUE;
-    private static final int FULL = DrawerCabinet.FULL;
-    private static final int NOT_POSSIBLE = DrawerCabinet.NOT_POSSIBLE;
-    private static final int NONE = DrawerCabinet.NONE;
-
+/** Promises 1, 2, 4 and 5, sentence by sentence: a new object, build, setBottoms, lay. */
+public final class BuildingTests extends Check {
     public static void main(String[] args) {
-        promise1();
-        promise2Answers();
-        promise2Errors();
-        promise2Order();
-        promise3Answers();
-        promise3Faults();
-        promise3Again();
-        promise3Order();
-        promise4();
-        promise4Things();
-        promise5();
-        promise5Errors();
-        Check.end();
+        Sentences.run(BuildingTests.class, "Promise 1", "Promise 2", "Promise 4", "Promise 5");
     }
 
-    private static void promise1() {
+    // ---- a new object
+
+    @Says(in = "Promise 1", words = "`DrawerCabinet()`: Creates a cabinet without drawers.")
+    static void newObject() {
         DrawerCabinet x = new DrawerCabinet();
-        int[] want = {0, 0, 0, 0, 0, 0, 1, 0, 0, 0, 0};
+        int[] counts = {0, 0, 0, 0, 0, 0, 1, 0, 0, 0, 0, BAD_VALUE};
+        for (int what = 0; what < counts.length; what++) {
+            due("count " + what, x.count(what), counts[what]);
+        }
+        due("the first drawer", x.drawer(0, 0), UNKNOWN);
+        due("the table", x.thing(0, 0), NONE);
+        due("undo", x.undo(), NONE);
+        due("restore", x.restore(), NONE);
+        due("minutes", x.minutes(), -1.0);
+    }
+
+    @Says(in = "Promise 1", words = "Creates a cabinet without drawers.")
+    static void newObjectsShareNothing() {
+        DrawerCabinet x = cabinet("ch;cs");
+        x.lay(3, 1, 0);
+        x.keep();
+        DrawerCabinet y = new DrawerCabinet();
+        due("drawers", y.count(0), 0);
+        due("text", y.count(10), 0);
+        due("history", y.count(9), 0);
+        due("snapshot", y.restore(), NONE);
+        due("things", y.thing(3, 0), NONE);
+        due("drawers of the first", x.count(0), 2);
+    }
+
+    // ---- build
+
+    @Says(in = "Promise 2", words = {
+        "`int build(int outer, int hold, int by, int stiffness)`: Builds a drawer.", "Returns its number;"})
+    static void buildAnswersItsNumber() {
+        DrawerCabinet x = new DrawerCabinet();
+        for (int drawer = 0; drawer < 16; drawer++) {
+            due("build", x.build(NONE, 0, 0, drawer % 10), drawer);
+            due("drawers", x.count(0), drawer + 1);
+        }
+        for (int drawer = 0; drawer < 16; drawer++) {
+            due("stiffness", x.drawer(drawer, 3), drawer % 10);
+        }
+    }
+
+    @Says(in = "Promise 2", words = "Builds a drawer. This is an act.")
+    static void buildIsAnAct() {
+        DrawerCabinet x = cabinet("ch;0s");
+        Told.recorded(x, 2, y -> y.build(1, 1, 7, 9));
+        int[] want = {1, 1, 7, 9, 0, 0, 0, 0, 0, 0, 2};
         for (int what = 0; what < want.length; what++) {
-            Check.due("1: count " + what, x.count(what), want[what]);
+            due("drawer(2, " + what + ")", x.drawer(2, what), want[what]);
         }
-        for (int thing = 0; thing < 12; thing++) {
-            Check.due("1: place", x.thing(thing, 0), NONE);
-            Check.due("1: depth", x.thing(thing, 1), 0);
-            Check.due("1: in hand", x.thing(thing, 2), 0);
-            Check.due("1: can be taken", x.thing(thing, 3), 0);
-        }
-        Check.due("1: no drawer", x.drawer(0, 0), UNKNOWN);
-        Check.due("1: no history", x.undo(), NONE);
-        Check.due("1: no snapshot", x.restore(), NONE);
-        Check.due("1: minutes", x.minutes(), -1.0);
-        Check.due("1: bits", x.minutesBits(), 0);
-        Check.due("1: the constants", UNKNOWN + 10 * BAD_VALUE + 100 * FULL + 1000 * NOT_POSSIBLE + 10000 * NONE, -54321);
     }
 
-    private static void promise2Answers() {
+    @Says(in = "Promise 2", words = "`outer`: a drawer,")
+    static void buildInAnyDrawer() {
+        DrawerCabinet x = cabinet("ch;ch;ch");
+        due("in the first", x.build(0, 0, 0, 0), 3);
+        due("in the last", x.build(3, 0, 0, 0), 4);
+        due("in one between", x.build(1, 0, 0, 0), 5);
+        due("the outer drawer", x.drawer(3, 0), 0);
+        due("the outer drawer", x.drawer(4, 0), 3);
+        due("the outer drawer", x.drawer(5, 0), 1);
+    }
+
+    @Says(in = "Promise 2", words = "or NONE for the cabinet")
+    static void buildInTheCabinet() {
+        DrawerCabinet x = cabinet("ch");
+        due("build", x.build(NONE, 0, 0, 0), 1);
+        due("the outer drawer", x.drawer(1, 0), NONE);
+        due("how deep", x.drawer(1, 10), 0);
+    }
+
+    @Says(in = "Promise 2", words = {"`outer`: a drawer,", "UNKNOWN (outer);"})
+    static void buildInNoDrawer() {
         DrawerCabinet x = new DrawerCabinet();
-        Check.due("2: handle", x.build(NONE, 0, -77, 0), 0);
-        Check.due("2: lock", x.build(0, 1, 9, 9), 1);
-        Check.due("2: lever", x.build(1, 2, 15, 3), 2);
-        Check.due("2: seal", x.build(1, 3, 1000, 4), 3);
-        Check.due("2: a holder that is itself", x.build(NONE, 2, 4, 0), 4);
-        Check.due("2: the first drawer as holder", x.build(4, 2, 0, 0), 5);
-        Check.due("2: the first key", x.build(5, 1, 0, 0), 6);
-        int[][] want = {
-            {NONE, 0, NONE, 0, 0, 0, 0, 0, 1, 0, 0},
-            {0, 1, 9, 9, 0, 0, 0, 0, 0, 0, 1},
-            {1, 2, 15, 3, 0, 0, 0, 0, 0, 0, 2},
-            {1, 3, NONE, 4, 0, 0, 0, 0, 0, 0, 2},
-            {NONE, 2, 4, 0, 0, 0, 0, 0, 1, 0, 0},
-            {4, 2, 0, 0, 0, 0, 0, 0, 0, 0, 1},
-            {5, 1, 0, 0, 0, 0, 0, 0, 0, 0, 2},
-        };
-        for (int drawer = 0; drawer < want.length; drawer++) {
-            for (int what = 0; what < want[drawer].length; what++) {
-                Check.due("2: drawer " + drawer + " what " + what, x.drawer(drawer, what), want[drawer][what]);
+        due("in an empty cabinet", x.build(0, 0, 0, 0), UNKNOWN);
+        x.build(NONE, 0, 0, 0);
+        x.build(NONE, 0, 0, 0);
+        for (int outer : noDrawers(2)) {
+            due("outer " + outer, x.build(outer, 0, 0, 0), UNKNOWN);
+        }
+        due("drawers", x.count(0), 2);
+        due("history", x.count(9), 2);
+    }
+
+    @Says(in = "Promise 2", words = "`hold`: 0 to 3")
+    static void buildWithEachHold() {
+        DrawerCabinet x = new DrawerCabinet();
+        for (int hold = 0; hold <= 3; hold++) {
+            due("build", x.build(NONE, hold, 0, 0), hold);
+            due("hold", x.drawer(hold, 1), hold);
+        }
+    }
+
+    @Says(in = "Promise 2", words = {"`hold`: 0 to 3", "BAD_VALUE;"})
+    static void buildWithNoHold() {
+        DrawerCabinet x = new DrawerCabinet();
+        int[] holds = {-1, 4, 5, NONE, 16, 32, 256, Integer.MAX_VALUE, Integer.MIN_VALUE};
+        for (int hold : holds) {
+            due("hold " + hold, x.build(NONE, hold, 0, 0), BAD_VALUE);
+        }
+        due("drawers", x.count(0), 0);
+    }
+
+    @Says(in = "Promise 2", words = "`by`: the key (0 to 9) for a lock,")
+    static void buildWithEachKey() {
+        DrawerCabinet x = new DrawerCabinet();
+        for (int key = 0; key <= 9; key++) {
+            due("build", x.build(NONE, 1, key, 0), key);
+            due("key", x.drawer(key, 2), key);
+        }
+    }
+
+    @Says(in = "Promise 2", words = {"`by`: the key (0 to 9) for a lock,", "BAD_VALUE;"})
+    static void buildWithNoKey() {
+        DrawerCabinet x = new DrawerCabinet();
+        int[] keys = {-1, 10, 11, 12, 15, NONE, 32, Integer.MAX_VALUE, Integer.MIN_VALUE};
+        for (int key : keys) {
+            due("key " + key, x.build(NONE, 1, key, 0), BAD_VALUE);
+        }
+        due("drawers", x.count(0), 0);
+    }
+
+    @Says(in = "Promise 2", words = "the holder (0 to 15,")
+    static void buildWithEachHolder() {
+        DrawerCabinet x = new DrawerCabinet();
+        for (int holder = 0; holder <= 15; holder++) {
+            due("build", x.build(NONE, 2, holder, 0), holder);
+            due("holder", x.drawer(holder, 2), holder);
+        }
+    }
+
+    @Says(in = "Promise 2", words = {"the holder (0 to 15,", "BAD_VALUE;"})
+    static void buildWithNoHolder() {
+        DrawerCabinet x = cabinet("ch");
+        int[] holders = {-1, 16, 17, NONE, 32, Integer.MAX_VALUE, Integer.MIN_VALUE};
+        for (int holder : holders) {
+            due("holder " + holder, x.build(NONE, 2, holder, 0), BAD_VALUE);
+        }
+        due("drawers", x.count(0), 1);
+    }
+
+    @Says(in = "Promise 2", words = "it need not be there yet) for a lever,")
+    static void buildBeforeTheHolder() {
+        DrawerCabinet x = new DrawerCabinet();
+        due("a later one", x.build(NONE, 2, 2, 0), 0);
+        due("its own number", x.build(NONE, 2, 1, 0), 1);
+        due("the last one", x.build(NONE, 2, 15, 0), 2);
+        due("holder", x.drawer(0, 2), 2);
+        due("holder", x.drawer(1, 2), 1);
+        due("holder", x.drawer(2, 2), 15);
+    }
+
+    @Says(in = "Promise 2", words = "otherwise it does not matter")
+    static void buildWithAnythingForHandlesAndSeals() {
+        DrawerCabinet x = new DrawerCabinet();
+        int[] numbers = {-1, 10, 16, NONE, Integer.MAX_VALUE, Integer.MIN_VALUE};
+        for (int i = 0; i < numbers.length; i++) {
+            due("a handle by " + numbers[i], x.build(NONE, 0, numbers[i], 0), 2 * i);
+            due("a seal by " + numbers[i], x.build(NONE, 3, numbers[i], 0), 2 * i + 1);
+            due("told of the handle", x.drawer(2 * i, 2), NONE);
+            due("told of the seal", x.drawer(2 * i + 1, 2), NONE);
+        }
+    }
+
+    @Says(in = "Promise 2", words = "`stiffness`: 0 to 9")
+    static void buildWithEachStiffness() {
+        DrawerCabinet x = new DrawerCabinet();
+        for (int stiffness = 0; stiffness <= 9; stiffness++) {
+            due("build", x.build(NONE, stiffness % 4, 0, stiffness), stiffness);
+            due("stiffness", x.drawer(stiffness, 3), stiffness);
+        }
+    }
+
+    @Says(in = "Promise 2", words = {"`stiffness`: 0 to 9", "BAD_VALUE;"})
+    static void buildWithNoStiffness() {
+        DrawerCabinet x = new DrawerCabinet();
+        int[] numbers = {-1, 10, NONE, 16, Integer.MAX_VALUE, Integer.MIN_VALUE};
+        for (int stiffness : numbers) {
+            for (int hold = 0; hold <= 3; hold++) {
+                due("stiffness " + stiffness, x.build(NONE, hold, 0, stiffness), BAD_VALUE);
             }
         }
-        Check.due("2: acts", x.count(9), 4);
-        Check.due("2: undo", x.undo(), 3);
-        Check.due("2: undone", x.count(0), 6);
+        due("drawers", x.count(0), 0);
     }
 
-    private static void promise2Errors() {
-        DrawerCabinet x = new DrawerCabinet();
-        int[] outers = {0, 1, -1, -2, -4, -6, 16, Integer.MAX_VALUE, Integer.MIN_VALUE};
-        for (int outer : outers) {
-            Check.due("2: outer " + outer, x.build(outer, 0, 0, 0), UNKNOWN);
-        }
-        int[][] bad = {
-            {-1, 0, 0}, {4, 0, 0}, {Integer.MAX_VALUE, 0, 0}, {Integer.MIN_VALUE, 0, 0},
-            {0, 0, -1}, {0, 0, 10}, {3, 0, Integer.MIN_VALUE},
-            {1, -1, 0}, {1, 10, 0}, {1, NONE, 0}, {2, -1, 0}, {2, 16, 0}, {2, Integer.MAX_VALUE, 0},
-        };
-        for (int[] row : bad) {
-            Check.due("2: hold " + row[0] + " by " + row[1] + " stiffness " + row[2],
-                x.build(NONE, row[0], row[1], row[2]), BAD_VALUE);
-        }
-        Check.due("2: nothing built", x.count(0), 0);
-        Check.due("2: nothing recorded", x.count(9), 0);
+    @Says(in = "Promise 2", words = "FULL if there are 16;")
+    static void buildSeventeenth() {
+        DrawerCabinet x = cabinet("ch;".repeat(14) + "ch");
+        due("the sixteenth", x.build(14, 0, 0, 0), 15);
+        due("the seventeenth", x.build(NONE, 0, 0, 0), FULL);
+        due("in the last", x.build(15, 3, 0, 9), FULL);
+        due("drawers", x.count(0), 16);
+        x.undo();
+        due("with room again", x.build(NONE, 0, 0, 0), 15);
     }
 
-    private static void promise2Order() {
-        DrawerCabinet x = new DrawerCabinet();
-        for (int drawer = 0; drawer < 15; drawer++) {
-            x.build(drawer - 1 < 0 ? NONE : drawer - 1, 0, 0, 0);
-        }
-        x.begin();
-        Check.due("2: in a game", x.build(NONE, 0, 0, 0), NOT_POSSIBLE);
-        Check.due("2: bad value before game", x.build(NONE, 9, 0, 0), BAD_VALUE);
-        Check.due("2: unknown before bad value", x.build(15, 9, 0, 0), UNKNOWN);
+    @Says(in = "Promise 2", words = "NOT_POSSIBLE in a game.")
+    static void buildInAGame() {
+        DrawerCabinet x = game("ch");
+        due("in a game", x.build(NONE, 0, 0, 0), NOT_POSSIBLE);
+        due("in a drawer", x.build(0, 1, 0, 0), NOT_POSSIBLE);
+        due("drawers", x.count(0), 1);
         x.giveUp();
-        Check.due("2: the last one", x.build(14, 0, 0, 0), 15);
-        Check.due("2: how deep", x.drawer(15, 10), 15);
-        Check.due("2: full", x.build(NONE, 0, 0, 0), FULL);
-        Check.due("2: bad value before full", x.build(NONE, 1, 10, 0), BAD_VALUE);
+        due("after it", x.build(NONE, 0, 0, 0), 1);
+    }
+
+    @Says(in = "Promise 2", words = "UNKNOWN (outer); BAD_VALUE; FULL if there are 16; NOT_POSSIBLE in a game.")
+    static void buildOrderOfErrors() {
+        DrawerCabinet x = cabinet("ch;".repeat(15) + "ch");
+        due("unknown before bad value", x.build(16, 4, 0, 0), UNKNOWN);
+        due("unknown before full", x.build(16, 0, 0, 0), UNKNOWN);
+        due("bad value before full", x.build(NONE, 0, 0, 10), BAD_VALUE);
         x.begin();
-        Check.due("2: full before game", x.build(15, 0, 0, 0), FULL);
-        Check.due("2: unknown before full", x.build(16, 0, 0, 0), UNKNOWN);
+        due("unknown before a game", x.build(-1, 0, 0, 0), UNKNOWN);
+        due("bad value before a game", x.build(15, 1, 10, 0), BAD_VALUE);
+        due("full before a game", x.build(15, 0, 0, 0), FULL);
+        DrawerCabinet y = game("ch");
+        due("unknown before a game", y.build(1, 0, 0, 0), UNKNOWN);
+        due("bad value before a game", y.build(0, 2, 16, 0), BAD_VALUE);
     }
 
-    private static void promise3Answers() {
-        DrawerCabinet x = new DrawerCabinet();
-        x.build(NONE, 0, 0, 7);
-        Check.type(x, "0s*3;ck9;1l15*1;3h;ch*2");
-        Check.due("3: how many", x.buildAll(), 5);
-        int[][] want = {
-            {NONE, 0, NONE, 7, 0}, {0, 3, NONE, 0, 3}, {NONE, 1, 9, 0, 0},
-            {1, 2, 15, 0, 1}, {3, 0, NONE, 0, 0}, {NONE, 0, NONE, 0, 2},
-        };
-        for (int drawer = 0; drawer < want.length; drawer++) {
-            for (int what = 0; what < want[drawer].length; what++) {
-                Check.due("3: drawer " + drawer + " what " + what, x.drawer(drawer, what), want[drawer][what]);
-            }
+    // ---- setBottoms
+
+    @Says(in = "Promise 4", words = {
+        "`int setBottoms(int drawer, int bottoms)`: Gives a drawer false bottoms;", "Returns the previous number;"})
+    static void setBottomsAnswersThePreviousNumber() {
+        DrawerCabinet x = cabinet("ch;ch*2");
+        int[][] rows = {{0, 3, 0}, {0, 1, 3}, {0, 2, 1}, {0, 0, 2}, {1, 3, 2}, {1, 0, 3}, {0, 1, 0}};
+        for (int[] row : rows) {
+            due("drawer " + row[0] + " bottoms " + row[1], x.setBottoms(row[0], row[1]), row[2]);
+            due("told", x.drawer(row[0], 4), row[1]);
         }
-        Check.due("3: the text stays", x.count(10), 23);
-        Check.due("3: one act", x.count(9), 2);
-        Check.due("3: undone at once", x.undo(), 1);
-        Check.due("3: one is left", x.count(0), 1);
-        Check.due("3: the text stays on undo", x.buildAll(), 5);
-        Check.due("3: outers may come from before", x.buildAll(), 5);
-        Check.due("3: the outer of drawer 6", x.drawer(6, 0), 0);
-        Check.due("3: full", x.buildAll(), 5);
-        Check.due("3: no more room", x.buildAll(), FULL);
-        Check.due("3: none of them", x.count(0), 16);
+        due("the other one", x.drawer(1, 4), 0);
     }
 
-    private static void promise3Faults() {
-        String[] texts = {
-            "", "c", "x", "C", "cx", "ch;", "ch;;", "ch ", "chh", "ck", "ck1", "ckx", "ck10", "cl", "cl1", "cl15",
-            "cl16", "cl05", "cl20", "cl151", "cl9*", "clh", "ch*", "ch*0", "ch*1", "ch*3", "ch*4", "ch*11", "ch*1*1",
-            "00h", "01h", "16h", "1", "15", "20h", "ch;1", "ch;0h;16h", "ch,ch", ";ch", "*1", "cs1", "cs*2;", "0",
-            "c0h", "h", "0h;", "cc", "ck:", "ck;", "ck/", "cl:", "cl;", "cl/", ":h", "/h", "cl10", "cl1:", "cl1/", "ch*/", "ch\u00e9", "ch\u2028", "c\u0130",
-        };
-        int[] faults = {
-            0, 1, 0, 0, 1, 3, 3, 2, 2, 2, -1, 2, 3, 2, -1, -1,
-            3, 3, 3, 4, 4, 2, 3, 3, -1, -1, 3, 4, 4,
-            1, 1, 1, 1, 2, 1, 4, 7, 2, 0, 0, 2, 5, 1,
-            1, 0, 3, 1, 2, 2, 2, 2, 2, 2, 0, 0, -1, 3, 3, 3, 2, 2, 1,
-        };
-        Check.due("3: the table", texts.length, faults.length);
-        for (int i = 0; i < texts.length; i++) {
-            DrawerCabinet x = new DrawerCabinet();
-            Check.type(x, texts[i]);
-            Check.due("3: the text " + texts[i], x.buildAll(), faults[i] < 0 ? 1 : -100 - faults[i]);
-            Check.due("3: built of " + texts[i], x.count(0), faults[i] < 0 ? 1 : 0);
-            Check.due("3: recorded of " + texts[i], x.count(9), faults[i] < 0 ? 1 : 0);
+    @Says(in = "Promise 4", words = "things in it that would be deeper come to the deepest place.")
+    static void setBottomsRaisesThings() {
+        DrawerCabinet x = cabinet("ch*3;ch*3");
+        for (int depth = 0; depth <= 3; depth++) {
+            x.lay(depth, 0, depth);
+            x.lay(11 - depth, 1, depth);
         }
-        DrawerCabinet x = new DrawerCabinet();
-        Check.type(x, "ch;".repeat(20));
-        Check.due("3: what was read goes", x.count(0), 0);
-        Check.due("3: a fault at the very end", x.buildAll(), -160);
-        Check.type(x, "ch;".repeat(18) + "ch*3;c");
-        Check.due("3: ends early at the very end", x.buildAll(), -160);
-    }
-
-    /** What was read before leaves no trace in the next reading. */
-    private static void promise3Again() {
-        DrawerCabinet x = Check.cabinet("cs*3;0l10*2;ch;1k7*1;0k0");
-        for (int hold = 0; hold < 4; hold++) {
-            x.undo();
-            Check.type(x, new String[] {"ch;0h;1h;2h", "ck2;0k3;1k4;2k5", "cl2;0l3;1l10;2l5", "cs;0s;1s;2s"}[hold]);
-            Check.due("3: again", x.buildAll(), 4);
-            for (int drawer = 0; drawer < 4; drawer++) {
-                int by = hold == 1 || (hold == 2 && drawer != 2) ? drawer + 2 : hold == 2 ? 10 : NONE;
-                Check.due("3: outer again", x.drawer(drawer, 0), drawer == 0 ? NONE : drawer - 1);
-                Check.due("3: hold again", x.drawer(drawer, 1), hold);
-                Check.due("3: by again", x.drawer(drawer, 2), by);
-                Check.due("3: stiffness again", x.drawer(drawer, 3), 0);
-                Check.due("3: bottoms again", x.drawer(drawer, 4), 0);
-            }
-        }
-        x = Check.cabinet("ch;".repeat(11) + "10h;10s");
-        Check.due("3: in the tenth", x.drawer(11, 0), 10);
-    }
-
-    private static void promise3Order() {
-        DrawerCabinet x = new DrawerCabinet();
-        Check.type(x, "ch;".repeat(19) + "ch");
-        Check.due("3: twenty", x.buildAll(), FULL);
-        Check.type(x, "0h;" + "ch;".repeat(18) + "ch");
-        Check.due("3: unknown before full", x.buildAll(), UNKNOWN);
-        Check.type(x, "ch;1h");
-        Check.due("3: its own number", x.buildAll(), UNKNOWN);
-        Check.type(x, "ch;15h;x");
-        Check.due("3: fault before unknown", x.buildAll(), -107);
-        Check.type(x, "ch;".repeat(15) + "14h");
-        Check.due("3: sixteen", x.buildAll(), 16);
-        Check.due("3: the last outer", x.drawer(15, 0), 14);
-        x.begin();
-        Check.type(x, "ch");
-        Check.due("3: full before game", x.buildAll(), FULL);
-        DrawerCabinet y = Check.cabinet("ch");
-        y.begin();
-        Check.due("3: in a game", y.buildAll(), NOT_POSSIBLE);
-        Check.type(y, "1h");
-        Check.due("3: unknown before game", y.buildAll(), UNKNOWN);
-        Check.type(y, "1");
-        Check.due("3: fault before game", y.buildAll(), -101);
-        Check.due("3: nothing recorded", y.count(9), 2);
-    }
-
-    private static void promise4() {
-        DrawerCabinet x = Check.cabinet("ch");
-        Check.due("4: to 3", x.setBottoms(0, 3), 0);
-        Check.due("4: to 1", x.setBottoms(0, 1), 3);
-        Check.due("4: 1 again", x.setBottoms(0, 1), NONE);
-        Check.due("4: told", x.drawer(0, 4), 1);
-        Check.due("4: acts", x.count(9), 3);
-        Check.due("4: to 0", x.setBottoms(0, 0), 1);
-        Check.due("4: 0 again", x.setBottoms(0, 0), NONE);
-        Check.due("4: undo", x.undo(), 3);
-        Check.due("4: undone", x.drawer(0, 4), 1);
-        int[] drawers = {1, -1, NONE, 16, Integer.MIN_VALUE, Integer.MAX_VALUE};
-        for (int drawer : drawers) {
-            Check.due("4: drawer " + drawer, x.setBottoms(drawer, 9), UNKNOWN);
-        }
-        int[] bottoms = {-1, 4, Integer.MIN_VALUE, Integer.MAX_VALUE};
-        for (int number : bottoms) {
-            Check.due("4: bottoms " + number, x.setBottoms(0, number), BAD_VALUE);
-        }
-        x.begin();
-        Check.due("4: in a game", x.setBottoms(0, 2), NOT_POSSIBLE);
-        Check.due("4: in a game, so many already", x.setBottoms(0, 1), NOT_POSSIBLE);
-        Check.due("4: bad value before game", x.setBottoms(0, 4), BAD_VALUE);
-        Check.due("4: unknown before game", x.setBottoms(1, 0), UNKNOWN);
-    }
-
-    private static void promise4Things() {
-        DrawerCabinet x = Check.cabinet("ch*3;ch*3");
+        due("to 2", x.setBottoms(0, 2), 3);
+        int[] want = {0, 1, 2, 2};
         for (int thing = 0; thing < 4; thing++) {
-            x.lay(3 - thing, 0, thing);
-            x.lay(thing + 4, 1, thing);
+            due("depth of " + thing, x.thing(thing, 1), want[thing]);
+            due("in the other drawer", x.thing(11 - thing, 1), thing);
+            due("its place stays", x.thing(thing, 0), 0);
         }
-        x.setBottoms(0, 1);
-        int[] want = {1, 1, 1, 0, 0, 1, 2, 3, 0};
-        for (int thing = 0; thing < want.length; thing++) {
-            Check.due("4: depth of " + thing, x.thing(thing, 1), want[thing]);
+        due("to none", x.setBottoms(0, 0), 2);
+        for (int thing = 0; thing < 4; thing++) {
+            due("depth of " + thing, x.thing(thing, 1), 0);
         }
+        due("things in it", x.drawer(0, 9), 4);
+    }
+
+    @Says(in = "Promise 4", words = "things in it that would be deeper come to the deepest place.")
+    static void setBottomsLeavesThingsThatAreNotDeeper() {
+        DrawerCabinet x = cabinet("ch*3");
+        x.lay(0, 0, 3);
+        x.lay(1, 0, 1);
+        x.setBottoms(0, 2);
         x.setBottoms(0, 3);
-        Check.due("4: it does not come down again", x.thing(0, 1), 1);
+        due("a raised one stays raised", x.thing(0, 1), 2);
+        due("a higher one stays", x.thing(1, 1), 1);
         x.undo();
         x.undo();
-        Check.due("4: undone", x.thing(0, 1), 3);
+        due("undone", x.thing(0, 1), 3);
     }
 
-    private static void promise5() {
-        DrawerCabinet x = Check.cabinet("ch*2;0h");
-        Check.due("5: in", x.lay(11, 0, 2), 1);
-        Check.due("5: deeper in", x.lay(0, 1, 0), 2);
-        Check.due("5: it lies there", x.lay(11, 0, 2), NONE);
-        Check.due("5: to another depth", x.lay(11, 0, 0), 2);
-        Check.due("5: to another drawer", x.lay(11, 1, 0), 2);
-        Check.due("5: told", x.thing(11, 0), 1);
-        Check.due("5: to the table", x.lay(11, NONE, 0), 1);
-        Check.due("5: on the table", x.lay(11, NONE, 0), NONE);
-        Check.due("5: history", x.count(9), 4);
-        x.undo();
-        Check.due("5: undone", x.thing(11, 0), 1);
+    @Says(in = "Promise 4", words = "This is an act.")
+    static void setBottomsIsAnAct() {
+        DrawerCabinet x = cabinet("ch*2;ch");
+        x.lay(5, 0, 2);
+        Told.recorded(x, 2, y -> y.setBottoms(0, 1));
+        due("told", x.drawer(0, 4), 1);
+        due("the thing", x.thing(5, 1), 1);
     }
 
-    private static void promise5Errors() {
-        DrawerCabinet x = Check.cabinet("ch*2;0h");
-        int[][] unknown = {
-            {-1, 0}, {12, 0}, {Integer.MAX_VALUE, 0}, {Integer.MIN_VALUE, NONE}, {0, 2}, {0, -1}, {0, 16},
-            {0, Integer.MAX_VALUE}, {0, Integer.MIN_VALUE}, {-5, NONE},
-        };
-        for (int[] row : unknown) {
-            Check.due("5: thing " + row[0] + " drawer " + row[1], x.lay(row[0], row[1], 9), UNKNOWN);
+    @Says(in = "Promise 4", words = {"`drawer`: a drawer", "UNKNOWN;"})
+    static void setBottomsOfNoDrawer() {
+        DrawerCabinet x = cabinet("ch;ch");
+        due("NONE", x.setBottoms(NONE, 1), UNKNOWN);
+        for (int drawer : noDrawers(2)) {
+            due("drawer " + drawer, x.setBottoms(drawer, 1), UNKNOWN);
         }
-        int[][] bad = {{0, -1}, {0, 3}, {1, 1}, {NONE, 1}, {NONE, -1}, {0, Integer.MAX_VALUE}, {0, Integer.MIN_VALUE}};
-        for (int[] row : bad) {
-            Check.due("5: drawer " + row[0] + " depth " + row[1], x.lay(0, row[0], row[1]), BAD_VALUE);
+        due("the last one", x.setBottoms(1, 1), 0);
+        due("without drawers", new DrawerCabinet().setBottoms(0, 1), UNKNOWN);
+    }
+
+    @Says(in = "Promise 4", words = {"`bottoms`: 0 to 3", "BAD_VALUE;"})
+    static void setBottomsOutOfRange() {
+        DrawerCabinet x = cabinet("ch*1");
+        int[] numbers = {-1, 4, NONE, 5, 16, 32, Integer.MAX_VALUE, Integer.MIN_VALUE};
+        for (int bottoms : numbers) {
+            due("bottoms " + bottoms, x.setBottoms(0, bottoms), BAD_VALUE);
         }
-        x.begin();
-        Check.due("5: in a game", x.lay(0, 0, 0), NOT_POSSIBLE);
-        Check.due("5: in a game, it lies there", x.lay(0, NONE, 0), NOT_POSSIBLE);
-        Check.due("5: bad value before game", x.lay(0, 0, 3), BAD_VALUE);
-        Check.due("5: unknown before game", x.lay(0, 2, 0), UNKNOWN);
+        due("told", x.drawer(0, 4), 1);
+        due("the most", x.setBottoms(0, 3), 1);
+        due("none", x.setBottoms(0, 0), 3);
+    }
+
+    @Says(in = "Promise 4", words = "NOT_POSSIBLE in a game;")
+    static void setBottomsInAGame() {
+        DrawerCabinet x = game("ch*1");
+        due("in a game", x.setBottoms(0, 2), NOT_POSSIBLE);
+        x.open(0);
+        due("of an open one", x.setBottoms(0, 0), NOT_POSSIBLE);
+        due("told", x.drawer(0, 4), 1);
+        x.giveUp();
+        due("after it", x.setBottoms(0, 2), 1);
+    }
+
+    @Says(in = "Promise 4", words = "NONE if it has so many already.")
+    static void setBottomsToWhatItHas() {
+        DrawerCabinet x = cabinet("ch");
+        for (int bottoms = 0; bottoms <= 3; bottoms++) {
+            if (bottoms > 0) {
+                due("to " + bottoms, x.setBottoms(0, bottoms), bottoms - 1);
+            }
+            due("again to " + bottoms, x.setBottoms(0, bottoms), NONE);
+            due("history", x.count(9), bottoms + 1);
+        }
+    }
+
+    @Says(in = "Promise 4", words = "UNKNOWN; BAD_VALUE; NOT_POSSIBLE in a game; NONE if it has so many already.")
+    static void setBottomsOrderOfErrors() {
+        DrawerCabinet x = game("ch*1");
+        due("unknown before bad value", x.setBottoms(1, 4), UNKNOWN);
+        due("unknown before a game", x.setBottoms(1, 1), UNKNOWN);
+        due("bad value before a game", x.setBottoms(0, -1), BAD_VALUE);
+        due("a game before none", x.setBottoms(0, 1), NOT_POSSIBLE);
+    }
+
+    // ---- lay
+
+    @Says(in = "Promise 5", words = {
+        "`int lay(int thing, int drawer, int depth)`: Lays a thing somewhere.",
+        "Returns how many things lie in drawers then;"})
+    static void layAnswersHowManyLieInDrawers() {
+        DrawerCabinet x = cabinet("ch*1;0h");
+        for (int thing = 0; thing < 12; thing++) {
+            due("thing " + thing, x.lay(thing, thing % 2, 0), thing + 1);
+        }
+        due("to another drawer", x.lay(0, 1, 0), 12);
+        due("to another depth", x.lay(2, 0, 1), 12);
+        due("to the table", x.lay(3, NONE, 0), 11);
+        due("place", x.thing(3, 0), NONE);
+        due("place", x.thing(2, 0), 0);
+        due("depth", x.thing(2, 1), 1);
+    }
+
+    @Says(in = "Promise 5", words = "This is an act.")
+    static void layIsAnAct() {
+        DrawerCabinet x = cabinet("ch*2;ch");
+        x.lay(10, 1, 0);
+        Told.recorded(x, 2, y -> y.lay(11, 0, 2));
+        due("place", x.thing(11, 0), 0);
+        due("depth", x.thing(11, 1), 2);
+        x.undo();
+        Told.recorded(x, 0, y -> y.lay(10, NONE, 0));
+    }
+
+    @Says(in = "Promise 5", words = {"`thing`: 0 to 11", "UNKNOWN (thing or drawer);"})
+    static void layNoThing() {
+        DrawerCabinet x = cabinet("ch");
+        due("NONE", x.lay(NONE, 0, 0), UNKNOWN);
+        for (int thing : noThings()) {
+            due("thing " + thing, x.lay(thing, 0, 0), UNKNOWN);
+        }
+        due("in drawers", x.drawer(0, 9), 0);
+        due("the first", x.lay(0, 0, 0), 1);
+        due("the last", x.lay(11, 0, 0), 2);
+    }
+
+    @Says(in = "Promise 5", words = {"`drawer`: a drawer,", "UNKNOWN (thing or drawer);"})
+    static void layInNoDrawer() {
+        DrawerCabinet x = cabinet("ch;ch");
+        for (int drawer : noDrawers(2)) {
+            due("drawer " + drawer, x.lay(4, drawer, 0), UNKNOWN);
+        }
+        due("place", x.thing(4, 0), NONE);
+        due("the last one", x.lay(4, 1, 0), 1);
+        due("without drawers", new DrawerCabinet().lay(4, 0, 0), UNKNOWN);
+    }
+
+    @Says(in = "Promise 5", words = {"or NONE for the table", "(0 for the table)"})
+    static void layOnTheTable() {
+        DrawerCabinet x = cabinet("ch*3");
+        x.lay(6, 0, 3);
+        due("deeper than the table", x.lay(6, NONE, 1), BAD_VALUE);
+        due("as deep as the drawer", x.lay(6, NONE, 3), BAD_VALUE);
+        due("higher than the table", x.lay(6, NONE, -1), BAD_VALUE);
+        due("still in the drawer", x.thing(6, 1), 3);
+        due("on the table", x.lay(6, NONE, 0), 0);
+        due("place", x.thing(6, 0), NONE);
+        due("depth", x.thing(6, 1), 0);
+    }
+
+    @Says(in = "Promise 5", words = {"`depth`: 0 to the bottoms of the drawer", "BAD_VALUE;"})
+    static void layAtEachDepth() {
+        DrawerCabinet x = cabinet("ch;ch*1;ch*2;ch*3");
+        for (int drawer = 0; drawer < 4; drawer++) {
+            due("too high", x.lay(7, drawer, -1), BAD_VALUE);
+            due("too deep", x.lay(7, drawer, drawer + 1), BAD_VALUE);
+            due("far too deep", x.lay(7, drawer, Integer.MAX_VALUE), BAD_VALUE);
+            due("far too high", x.lay(7, drawer, Integer.MIN_VALUE), BAD_VALUE);
+            due("as NONE", x.lay(7, drawer, NONE), BAD_VALUE);
+            for (int depth = 0; depth <= drawer; depth++) {
+                due("drawer " + drawer + " depth " + depth, x.lay(7, drawer, depth), 1);
+                due("told", x.thing(7, 1), depth);
+            }
+        }
+    }
+
+    @Says(in = "Promise 5", words = "NOT_POSSIBLE in a game;")
+    static void layInAGame() {
+        DrawerCabinet x = game("ch");
+        due("in a drawer", x.lay(0, 0, 0), NOT_POSSIBLE);
+        x.open(0);
+        x.take(0);
+        due("what is in hand", x.lay(0, 0, 0), NOT_POSSIBLE);
+        due("back on the table", x.lay(0, NONE, 0), NOT_POSSIBLE);
+        due("it stays in hand", x.thing(0, 2), 1);
+        x.giveUp();
+        due("after it", x.lay(0, 0, 0), 1);
+    }
+
+    @Says(in = "Promise 5", words = "NONE if it lies there already.")
+    static void layWhereItLies() {
+        DrawerCabinet x = cabinet("ch*1;ch*1");
+        due("on the table", x.lay(8, NONE, 0), NONE);
+        due("in a drawer", x.lay(8, 0, 0), 1);
+        due("again", x.lay(8, 0, 0), NONE);
+        due("deeper", x.lay(8, 0, 1), 1);
+        due("again", x.lay(8, 0, 1), NONE);
+        due("as deep in the other one", x.lay(8, 1, 1), 1);
+        due("history", x.count(9), 4);
+        due("another thing", x.lay(9, 1, 1), 2);
+    }
+
+    @Says(in = "Promise 5", words =
+        "UNKNOWN (thing or drawer); BAD_VALUE; NOT_POSSIBLE in a game; NONE if it lies there already.")
+    static void layOrderOfErrors() {
+        DrawerCabinet x = game("ch");
+        due("unknown thing before bad value", x.lay(12, 0, 1), UNKNOWN);
+        due("unknown drawer before bad value", x.lay(0, 1, -1), UNKNOWN);
+        due("unknown before a game", x.lay(0, 1, 0), UNKNOWN);
+        due("bad value before a game", x.lay(0, 0, 1), BAD_VALUE);
+        due("bad value before none", x.lay(0, NONE, 1), BAD_VALUE);
+        due("a game before none", x.lay(0, NONE, 0), NOT_POSSIBLE);
     }
 }

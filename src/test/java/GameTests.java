@@ -1,268 +1,612 @@
-/** Promises 6 to 12: begin, giveUp, open, close, lift, take, seal. */
-public final class GameTests {
-    private static final int UNKNOWN = DrawerCabinet.UNKNOWN;
-    private static final int NOT_POSSIBLE = DrawerCabinet.NOT_POSSIBLE;
-    private static final int NONE = DrawerCabinet.NONE;
-    private static final int[] NO_DRAWERS = {-1, NONE, 4, 15, 16, 31, 32, Integer.MAX_VALUE, Integer.MIN_VALUE};
-
+/** Promises 6 to 12, sentence by sentence: begin, giveUp, open, close, lift, take, seal. */
+public final class GameTests extends Check {
     public static void main(String[] args) {
-        promise6();
-        promise7();
-        promise8Holds();
-        promise8Errors();
-        promise9();
-        promise10();
-        promise11();
-        promise12();
-        Check.end();
+        Sentences.run(GameTests.class,
+            "Promise 6", "Promise 7", "Promise 8", "Promise 9", "Promise 10", "Promise 11", "Promise 12");
     }
 
-    private static void promise6() {
+    // ---- begin
+
+    @Says(in = "Promise 6", words = {"`int begin()`: Begins a game.", "Returns how many drawers there are;"})
+    static void beginAnswersHowManyDrawers() {
+        due("one", cabinet("ch").begin(), 1);
+        DrawerCabinet x = cabinet("ch;".repeat(15) + "ch");
+        due("sixteen", x.begin(), 16);
+        due("there is a game", x.count(1), 1);
+    }
+
+    @Says(in = "Promise 6", words = "This is an act.")
+    static void beginIsAnAct() {
+        DrawerCabinet x = cabinet("cs*1;0h");
+        x.lay(3, 0, 1);
+        Told.recorded(x, 2, DrawerCabinet::begin);
+        due("there is a game", x.count(1), 1);
+    }
+
+    @Says(in = "Promise 6", words = "NOT_POSSIBLE if there is a game,")
+    static void beginInAGame() {
+        DrawerCabinet x = game("ch");
+        x.open(0);
+        due("again", x.begin(), NOT_POSSIBLE);
+        due("the game goes on", x.count(5), 1);
+        x.giveUp();
+        due("after it", x.begin(), 1);
+    }
+
+    @Says(in = "Promise 6", words = "or no drawer,")
+    static void beginWithoutDrawers() {
         DrawerCabinet x = new DrawerCabinet();
-        Check.due("6: no drawer", x.begin(), NOT_POSSIBLE);
-        Check.due("6: not recorded", x.count(9), 0);
-        x.build(NONE, 2, 1, 0);
-        Check.due("6: no holder", x.begin(), NOT_POSSIBLE);
-        x.build(NONE, 1, 5, 0);
-        Check.due("6: begins", x.begin(), 2);
-        Check.due("6: is told", x.count(1), 1);
-        Check.due("6: minutes", x.minutes(), 0.0);
-        Check.due("6: steps", x.count(5), 0);
-        Check.due("6: again", x.begin(), NOT_POSSIBLE);
-        Check.due("6: recorded", x.count(9), 3);
+        due("an empty cabinet", x.begin(), NOT_POSSIBLE);
+        due("no game", x.count(1), 0);
+        due("no state", x.count(9), 0);
+        x.build(NONE, 0, 0, 0);
         x.undo();
-        Check.due("6: undone", x.count(1), 0);
-        DrawerCabinet y = Check.cabinet("cl0");
-        Check.due("6: its own holder is there", y.begin(), 1);
+        due("empty again", x.begin(), NOT_POSSIBLE);
     }
 
-    private static void promise7() {
-        DrawerCabinet x = Check.cabinet("cs*1;ch");
-        x.lay(0, 0, 1);
-        Check.due("7: no game", x.giveUp(), NOT_POSSIBLE);
-        x.begin();
-        Check.due("7: no steps", x.giveUp(), 0);
+    @Says(in = "Promise 6", words = "or a holder is not there.")
+    static void beginWithoutAHolder() {
+        DrawerCabinet x = cabinet("cl2;ch");
+        due("the next number", x.begin(), NOT_POSSIBLE);
+        x.build(NONE, 0, 0, 0);
+        due("it is there", x.begin(), 3);
+        DrawerCabinet y = cabinet("ch;".repeat(14) + "cl15");
+        due("the last number", y.begin(), NOT_POSSIBLE);
+        y.build(0, 0, 0, 0);
+        due("it is there", y.begin(), 16);
+    }
+
+    @Says(in = "Promise 6", words = "or a holder is not there.")
+    static void beginWithAnyHoldThatIsThere() {
+        due("its own holder", cabinet("cl0").begin(), 1);
+        due("levers in a ring", cabinet("cl1;cl0").begin(), 2);
+        due("a key of any number", cabinet("ck9").begin(), 1);
+        due("one of two is not there", cabinet("cl0;cl2").begin(), NOT_POSSIBLE);
+        DrawerCabinet x = cabinet("ck9;0h");
+        x.lay(9, 1, 0);
+        due("a key that cannot be had", x.begin(), 2);
+    }
+
+    // ---- giveUp
+
+    @Says(in = "Promise 7", words = {"`int giveUp()`: Gives the game up.", "Returns how many steps were made;"})
+    static void giveUpAnswersTheSteps() {
+        DrawerCabinet x = game("cs*1;ch");
+        due("none", x.giveUp(), 0);
+        due("no game", x.count(1), 0);
         x.begin();
         x.open(0);
         x.take(10);
         x.lift(0);
-        x.take(0);
-        Check.due("7: nothing in the drawer", x.drawer(0, 9), 0);
-        Check.due("7: steps", x.giveUp(), 4);
-        Check.due("7: no game is left", x.count(1), 0);
-        int[] want = {0, 0, 0, 0};
-        for (int i = 0; i < want.length; i++) {
-            Check.due("7: count " + (i + 2), x.count(i + 2), want[i]);
-        }
-        Check.due("7: lifted", x.drawer(0, 5), 0);
-        Check.due("7: broken", x.drawer(0, 7), 0);
-        Check.due("7: bottoms", x.drawer(0, 4), 1);
-        Check.due("7: the key lies there", x.thing(0, 0), 0);
-        Check.due("7: at its depth", x.thing(0, 1), 1);
-        Check.due("7: minutes", x.minutes(), -1.0);
-        Check.due("7: twice", x.giveUp(), NOT_POSSIBLE);
-        x.undo();
-        Check.due("7: undone", x.count(5), 4);
-        Check.due("7: undone, minutes", x.minutes(), 4.0);
-        x.giveUp();
+        x.lift(0);
+        x.close(0);
+        due("four", x.giveUp(), 4);
+        due("no steps are left", x.count(5), 0);
         x.begin();
-        Check.due("7: a new game has no steps", x.count(5), 0);
-        Check.due("7: and no minutes", x.minutes(), 0.0);
-        x.open(0);
-        Check.due("7: and its own bottoms", x.lift(0), NOT_POSSIBLE);
+        due("none in a new game", x.giveUp(), 0);
     }
 
-    private static void promise8Holds() {
-        DrawerCabinet x = new DrawerCabinet();
-        x.build(NONE, 0, 0, 9);
-        x.build(0, 1, 3, 2);
-        x.build(NONE, 2, 1, 0);
-        x.build(NONE, 3, 0, 1);
+    @Says(in = "Promise 7", words = "Gives the game up.")
+    static void giveUpPutsEveryDrawerBack() {
+        DrawerCabinet x = cabinet("cs*1;" + "ch;".repeat(14) + "cs*3");
+        x.begin();
+        x.take(10);
+        for (int drawer = 0; drawer < 16; drawer += 15) {
+            x.open(drawer);
+            x.lift(drawer);
+        }
+        due("steps", x.giveUp(), 5);
+        x.begin();
+        for (int drawer = 0; drawer < 16; drawer += 15) {
+            due("open", x.drawer(drawer, 6), 0);
+            due("broken", x.drawer(drawer, 7), 0);
+            due("lifted", x.drawer(drawer, 5), 0);
+        }
+    }
+
+    @Says(in = "Promise 7", words = "This is an act.")
+    static void giveUpIsAnAct() {
+        DrawerCabinet x = game("cs");
+        x.open(0);
+        Told.recorded(x, 1, DrawerCabinet::giveUp);
+        due("no game", x.count(1), 0);
+        x.undo();
+        due("the game goes on", x.close(0), 0);
+    }
+
+    @Says(in = "Promise 7", words = "NOT_POSSIBLE if there is none.")
+    static void giveUpNoGame() {
+        due("a new object", new DrawerCabinet().giveUp(), NOT_POSSIBLE);
+        DrawerCabinet x = cabinet("ch");
+        due("before a game", x.giveUp(), NOT_POSSIBLE);
+        x.begin();
+        x.giveUp();
+        due("after a game", x.giveUp(), NOT_POSSIBLE);
+        due("states", x.count(9), 3);
+    }
+
+    // ---- open
+
+    @Says(in = "Promise 8", words = {
+        "`int open(int drawer)`: Opens a drawer.", "Returns how many drawers are open then;"})
+    static void openAnswersHowManyAreOpen() {
+        DrawerCabinet x = game("ch;".repeat(15) + "ch");
+        for (int drawer = 15; drawer >= 0; drawer--) {
+            due("open", x.open(drawer), 16 - drawer);
+            due("open drawers", x.count(2), 16 - drawer);
+            due("it is open", x.drawer(drawer, 6), 1);
+        }
+        x.close(3);
+        due("with one closed between", x.open(3), 16);
+    }
+
+    @Says(in = "Promise 8", words = "Returns how many drawers are open then;")
+    static void openCountsThoseThatAreNotReached() {
+        DrawerCabinet x = game("ch;0h;ch");
+        x.open(0);
+        x.open(1);
+        x.close(0);
+        due("with one that is not reached", x.open(2), 2);
+    }
+
+    @Says(in = "Promise 8", words = "This is an act.")
+    static void openIsAnAct() {
+        DrawerCabinet x = game("cs;ch");
+        Told.recorded(x, 1, y -> y.open(0));
+        due("broken", x.drawer(0, 7), 1);
+        x.undo();
+        due("undone, it is whole", x.drawer(0, 7), 0);
+    }
+
+    @Says(in = "Promise 8", words = {"`drawer`: a drawer", "UNKNOWN;"})
+    static void openNoDrawer() {
+        DrawerCabinet x = game("ch;ch");
+        due("NONE", x.open(NONE), UNKNOWN);
+        for (int drawer : noDrawers(2)) {
+            due("drawer " + drawer, x.open(drawer), UNKNOWN);
+        }
+        due("open drawers", x.count(2), 0);
+        due("the last one", x.open(1), 1);
+    }
+
+    @Says(in = "Promise 8", words = "NOT_POSSIBLE without a game,")
+    static void openWithoutAGame() {
+        DrawerCabinet x = cabinet("ch;cs");
+        due("before a game", x.open(0), NOT_POSSIBLE);
+        x.begin();
+        x.open(0);
+        x.giveUp();
+        due("after a game", x.open(0), NOT_POSSIBLE);
+        due("a seal", x.open(1), NOT_POSSIBLE);
+        due("nothing is broken", x.count(4), 0);
+    }
+
+    @Says(in = "Promise 8", words = "or if it is closed and cannot be opened;")
+    static void openWhatCannotBeOpened() {
+        DrawerCabinet x = game("ch;0h;ck0;cl0;cl4");
+        due("not reached", x.open(1), NOT_POSSIBLE);
+        due("locked", x.open(2), NOT_POSSIBLE);
+        due("held", x.open(3), NOT_POSSIBLE);
+        due("held by itself", x.open(4), NOT_POSSIBLE);
+        due("open drawers", x.count(2), 0);
+        due("steps", x.count(5), 0);
+    }
+
+    @Says(in = "Promise 8", words = "NONE if it is open.")
+    static void openWhatIsOpen() {
+        DrawerCabinet x = game("ch;0s;cl0");
+        x.open(0);
+        due("open", x.open(0), NONE);
+        x.open(1);
+        x.open(2);
+        x.close(0);
+        due("open, but not reached", x.open(1), NONE);
+        due("open, though its holder is closed", x.open(2), NONE);
+        due("steps", x.count(5), 4);
+    }
+
+    @Says(in = "Promise 8", words = "UNKNOWN; NOT_POSSIBLE without a game,")
+    static void openOrderOfErrors() {
+        DrawerCabinet x = cabinet("ch");
+        due("unknown before no game", x.open(1), UNKNOWN);
+        due("unknown before no game", new DrawerCabinet().open(0), UNKNOWN);
+    }
+
+    // ---- close
+
+    @Says(in = "Promise 9", words = {
+        "`int close(int drawer)`: Closes a drawer.", "Returns how many drawers are open then;"})
+    static void closeAnswersHowManyAreOpen() {
+        DrawerCabinet x = game("ch;".repeat(15) + "ch");
+        for (int drawer = 0; drawer < 16; drawer++) {
+            x.open(drawer);
+        }
+        for (int drawer = 0; drawer < 16; drawer++) {
+            due("close", x.close(drawer), 15 - drawer);
+            due("it is closed", x.drawer(drawer, 6), 0);
+        }
+    }
+
+    @Says(in = "Promise 9", words = "Returns how many drawers are open then;")
+    static void closeCountsThoseWithin() {
+        DrawerCabinet x = game("ch;0h;1h");
+        x.open(0);
+        x.open(1);
+        x.open(2);
+        due("two within are open", x.close(0), 2);
+    }
+
+    @Says(in = "Promise 9", words = "This is an act.")
+    static void closeIsAnAct() {
+        DrawerCabinet x = game("cs");
+        x.open(0);
+        Told.recorded(x, 0, y -> y.close(0));
+        due("closed", x.drawer(0, 6), 0);
+    }
+
+    @Says(in = "Promise 9", words = {"`drawer`: a drawer", "UNKNOWN;"})
+    static void closeNoDrawer() {
+        DrawerCabinet x = game("ch;ch");
+        x.open(0);
+        x.open(1);
+        due("NONE", x.close(NONE), UNKNOWN);
+        for (int drawer : noDrawers(2)) {
+            due("drawer " + drawer, x.close(drawer), UNKNOWN);
+        }
+        due("open drawers", x.count(2), 2);
+        due("the last one", x.close(1), 1);
+    }
+
+    @Says(in = "Promise 9", words = "NOT_POSSIBLE without a game,")
+    static void closeWithoutAGame() {
+        DrawerCabinet x = cabinet("ch");
+        due("before a game", x.close(0), NOT_POSSIBLE);
+        x.begin();
+        x.open(0);
+        x.giveUp();
+        due("after a game", x.close(0), NOT_POSSIBLE);
+    }
+
+    @Says(in = "Promise 9", words = "or if it is open and cannot be reached;")
+    static void closeWhatCannotBeReached() {
+        DrawerCabinet x = game("ch;0h;1h");
+        x.open(0);
+        x.open(1);
+        x.open(2);
+        x.close(0);
+        due("within", x.close(1), NOT_POSSIBLE);
+        due("two further in", x.close(2), NOT_POSSIBLE);
+        due("open drawers", x.count(2), 2);
+        due("steps", x.count(5), 4);
+    }
+
+    @Says(in = "Promise 9", words = "NONE if it is closed.")
+    static void closeWhatIsClosed() {
+        DrawerCabinet x = game("ch;0h;ck0");
+        due("closed", x.close(0), NONE);
+        due("closed and not reached", x.close(1), NONE);
+        due("closed and locked", x.close(2), NONE);
+        x.open(0);
+        x.close(0);
+        due("closed again", x.close(0), NONE);
+        due("steps", x.count(5), 2);
+    }
+
+    @Says(in = "Promise 9", words =
+        "UNKNOWN; NOT_POSSIBLE without a game, or if it is open and cannot be reached; NONE if it is closed.")
+    static void closeOrderOfErrors() {
+        DrawerCabinet x = cabinet("ch");
+        due("unknown before no game", x.close(1), UNKNOWN);
+        due("no game before none", x.close(0), NOT_POSSIBLE);
+    }
+
+    // ---- lift
+
+    @Says(in = "Promise 10", words = {
+        "`int lift(int drawer)`: Lifts the next bottom of a drawer.",
+        "Returns how many of its bottoms are lifted then;"})
+    static void liftAnswersHowManyAreLifted() {
+        DrawerCabinet x = game("ch*3;ch*2");
+        x.take(10);
+        x.open(0);
+        x.open(1);
+        due("the first", x.lift(0), 1);
+        due("the first of the other", x.lift(1), 1);
+        due("the second", x.lift(0), 2);
+        due("the third", x.lift(0), 3);
+        due("told", x.drawer(0, 5), 3);
+        due("told of the other", x.drawer(1, 5), 1);
+        due("the bottoms stay as many", x.drawer(0, 4), 3);
+    }
+
+    @Says(in = "Promise 10", words = "This is an act.")
+    static void liftIsAnAct() {
+        DrawerCabinet x = cabinet("ch*2");
+        x.begin();
+        x.take(10);
+        x.open(0);
+        Told.recorded(x, 1, y -> y.lift(0));
+        due("lifted", x.drawer(0, 5), 1);
+    }
+
+    @Says(in = "Promise 10", words = {"`drawer`: a drawer", "UNKNOWN;"})
+    static void liftInNoDrawer() {
+        DrawerCabinet x = game("ch*3;ch*3");
+        x.take(10);
+        x.open(0);
+        x.open(1);
+        due("NONE", x.lift(NONE), UNKNOWN);
+        for (int drawer : noDrawers(2)) {
+            due("drawer " + drawer, x.lift(drawer), UNKNOWN);
+        }
+        due("lifted", x.drawer(0, 5) + x.drawer(1, 5), 0);
+        due("the last one", x.lift(1), 1);
+    }
+
+    @Says(in = "Promise 10", words = "NOT_POSSIBLE without a game,")
+    static void liftWithoutAGame() {
+        DrawerCabinet x = cabinet("ch*1");
+        due("before a game", x.lift(0), NOT_POSSIBLE);
+        x.begin();
+        x.take(10);
+        x.open(0);
+        x.lift(0);
+        x.giveUp();
+        due("after a game", x.lift(0), NOT_POSSIBLE);
+    }
+
+    @Says(in = "Promise 10", words = "or if a bottom is left and cannot be lifted;")
+    static void liftWhatCannotBeLifted() {
+        DrawerCabinet x = game("ch*1;0h*1");
+        x.open(0);
+        due("without the knife", x.lift(0), NOT_POSSIBLE);
+        x.take(10);
+        due("closed", x.lift(1), NOT_POSSIBLE);
+        x.open(1);
+        x.close(0);
+        due("not reached", x.lift(1), NOT_POSSIBLE);
+        due("closed and reached", x.lift(0), NOT_POSSIBLE);
+        due("steps", x.count(5), 4);
+        due("lifted", x.drawer(0, 5) + x.drawer(1, 5), 0);
+    }
+
+    @Says(in = "Promise 10", words = "NONE if all of its bottoms are lifted")
+    static void liftWhenAllAreLifted() {
+        DrawerCabinet x = game("ch*2;0h*1");
+        x.take(10);
+        x.open(0);
+        x.open(1);
+        x.lift(1);
+        x.lift(0);
+        due("one is left", x.lift(0), 2);
+        due("none is left", x.lift(0), NONE);
+        x.close(0);
+        due("none is left in a closed one", x.lift(0), NONE);
+        due("none is left in one that is not reached", x.lift(1), NONE);
+        due("steps", x.count(5), 7);
+    }
+
+    @Says(in = "Promise 10", words = "(or it has none).")
+    static void liftWithoutBottoms() {
+        DrawerCabinet x = game("ch;0h");
+        due("closed and without the knife", x.lift(0), NONE);
+        due("not reached", x.lift(1), NONE);
+        x.open(0);
+        x.take(10);
+        due("open and with the knife", x.lift(0), NONE);
+        due("steps", x.count(5), 2);
+    }
+
+    @Says(in = "Promise 10", words = "UNKNOWN; NOT_POSSIBLE without a game,")
+    static void liftOrderOfErrors() {
+        DrawerCabinet x = cabinet("ch");
+        due("unknown before no game", x.lift(1), UNKNOWN);
+        due("no game before none", x.lift(0), NOT_POSSIBLE);
+    }
+
+    // ---- take
+
+    @Says(in = "Promise 11", words = {
+        "`int take(int thing)`: Takes a thing.", "Returns how many things are in hand then;"})
+    static void takeAnswersHowManyAreInHand() {
+        DrawerCabinet x = game("ch");
+        for (int thing = 11; thing >= 0; thing--) {
+            due("take", x.take(thing), 12 - thing);
+            due("in hand", x.thing(thing, 2), 1);
+        }
+        due("all", x.count(3), 0xfff);
+    }
+
+    @Says(in = "Promise 11", words = "This is an act.")
+    static void takeIsAnAct() {
+        DrawerCabinet x = cabinet("ch");
         x.lay(3, 0, 0);
         x.begin();
-        Check.due("8: not reached", x.open(1), NOT_POSSIBLE);
-        Check.due("8: a handle", x.open(0), 1);
-        Check.due("8: minutes", x.minutes(), 3.25);
-        Check.due("8: no key", x.open(1), NOT_POSSIBLE);
-        Check.due("8: the holder is closed", x.open(2), NOT_POSSIBLE);
-        x.take(3);
-        Check.due("8: a lock", x.open(1), 2);
-        Check.due("8: minutes", x.minutes(), 5.0);
-        x.close(0);
-        Check.due("8: a holder that is open and not reached", x.open(2), 2);
-        Check.due("8: open and not reached", x.open(1), NONE);
-        Check.due("8: a seal", x.open(3), 3);
-        Check.due("8: it is broken", x.drawer(3, 7), 1);
-        Check.due("8: no other one is", x.count(4), 1);
-        x.close(3);
-        Check.due("8: a broken seal", x.open(3), 3);
-        Check.due("8: it stays broken", x.count(4), 1);
-        Check.due("8: steps", x.count(5), 8);
-        x.undo();
-        Check.due("8: undone", x.drawer(3, 6), 0);
-        Check.due("8: that alone", x.count(5), 7);
-    }
-
-    private static void promise8Errors() {
-        DrawerCabinet x = Check.cabinet("ch;ck0;cl0;cs");
-        for (int drawer : NO_DRAWERS) {
-            Check.due("8: drawer " + drawer, x.open(drawer), UNKNOWN);
-        }
-        Check.due("8: without a game", x.open(0), NOT_POSSIBLE);
-        x.begin();
-        for (int drawer : NO_DRAWERS) {
-            Check.due("8: drawer in a game " + drawer, x.open(drawer), UNKNOWN);
-        }
         x.open(0);
-        int before = x.count(9);
-        Check.due("8: open", x.open(0), NONE);
-        Check.due("8: locked", x.open(1), NOT_POSSIBLE);
-        Check.due("8: not recorded", x.count(9), before);
-        Check.due("8: no step", x.count(5), 1);
-        x.take(1);
-        Check.due("8: another key", x.open(1), NOT_POSSIBLE);
+        Told.recorded(x, 1, y -> y.take(3));
+        due("in hand", x.count(3), 8);
     }
 
-    private static void promise9() {
-        DrawerCabinet x = Check.cabinet("ch*1;0s;1h");
-        x.build(NONE, 0, 0, 7);
-        for (int drawer : NO_DRAWERS) {
-            Check.due("9: drawer " + drawer, x.close(drawer), UNKNOWN);
+    @Says(in = "Promise 11", words = {"`thing`: 0 to 11", "UNKNOWN;"})
+    static void takeNoThing() {
+        DrawerCabinet x = game("ch");
+        due("NONE", x.take(NONE), UNKNOWN);
+        for (int thing : noThings()) {
+            due("thing " + thing, x.take(thing), UNKNOWN);
         }
-        Check.due("9: without a game", x.close(0), NOT_POSSIBLE);
+        due("in hand", x.count(3), 0);
+        due("the first", x.take(0), 1);
+        due("the last", x.take(11), 2);
+    }
+
+    @Says(in = "Promise 11", words = "NOT_POSSIBLE without a game,")
+    static void takeWithoutAGame() {
+        DrawerCabinet x = cabinet("ch");
+        due("before a game", x.take(0), NOT_POSSIBLE);
+        due("without drawers", new DrawerCabinet().take(0), NOT_POSSIBLE);
         x.begin();
-        Check.due("9: closed", x.close(0), NONE);
-        Check.due("9: closed and not reached", x.close(2), NONE);
-        x.take(10);
-        x.open(0);
-        x.open(1);
-        x.open(2);
-        x.lift(0);
-        x.open(3);
-        Check.due("9: closes", x.close(3), 3);
-        Check.due("9: minutes", x.minutes(), 0.25 + 3.0 + 2.5 + 2.75 + 2.75);
-        Check.due("9: the outermost", x.close(0), 2);
-        Check.due("9: bottoms stay lifted", x.drawer(0, 5), 1);
-        Check.due("9: what is in it stays open", x.drawer(1, 6), 1);
-        Check.due("9: its seal stays broken", x.drawer(1, 7), 1);
-        Check.due("9: not reached", x.close(1), NOT_POSSIBLE);
-        Check.due("9: not reached at all", x.close(2), NOT_POSSIBLE);
-        Check.due("9: steps", x.count(5), 8);
-        x.undo();
-        Check.due("9: undone", x.drawer(0, 6), 1);
-        Check.due("9: that alone", x.count(5), 7);
-        DrawerCabinet y = Check.cabinet("ch;cl0");
-        y.begin();
-        y.open(0);
-        y.open(1);
-        Check.due("9: a holder closes", y.close(0), 1);
-        Check.due("9: what it held stays open", y.drawer(1, 6), 1);
-        Check.due("9: a held one closes", y.close(1), 0);
-        Check.due("9: and is held again", y.open(1), NOT_POSSIBLE);
+        x.take(0);
+        x.giveUp();
+        due("after a game", x.take(0), NOT_POSSIBLE);
+        due("in hand", x.count(3), 0);
     }
 
-    private static void promise10() {
-        DrawerCabinet x = Check.cabinet("ch*2;0h*3;ch;ck0*1");
-        for (int drawer : NO_DRAWERS) {
-            Check.due("10: drawer " + drawer, x.lift(drawer), UNKNOWN);
-        }
-        Check.due("10: without a game", x.lift(0), NOT_POSSIBLE);
-        Check.due("10: without a game, no bottoms", x.lift(2), NOT_POSSIBLE);
-        x.begin();
-        Check.due("10: no bottoms", x.lift(2), NONE);
-        Check.due("10: closed", x.lift(0), NOT_POSSIBLE);
-        x.open(0);
-        Check.due("10: no knife", x.lift(0), NOT_POSSIBLE);
-        x.take(11);
-        Check.due("10: the stamp is no knife", x.lift(0), NOT_POSSIBLE);
-        x.take(10);
-        Check.due("10: the first", x.lift(0), 1);
-        Check.due("10: the second", x.lift(0), 2);
-        Check.due("10: no third", x.lift(0), NONE);
-        Check.due("10: minutes", x.minutes(), 6.5);
-        Check.due("10: the inner one is closed", x.lift(1), NOT_POSSIBLE);
-        x.open(1);
-        Check.due("10: the inner one", x.lift(1), 1);
-        x.close(0);
-        Check.due("10: not reached", x.lift(1), NOT_POSSIBLE);
-        Check.due("10: all lifted though closed", x.lift(0), NONE);
-        Check.due("10: steps", x.count(5), 8);
-        x.undo();
-        x.undo();
-        Check.due("10: undone", x.drawer(1, 5), 0);
-        Check.due("10: that alone", x.count(5), 6);
-    }
-
-    private static void promise11() {
-        DrawerCabinet x = Check.cabinet("ch*2;0h");
-        int[] things = {-1, 12, NONE, 31, 32, Integer.MAX_VALUE, Integer.MIN_VALUE};
-        for (int thing : things) {
-            Check.due("11: thing " + thing, x.take(thing), UNKNOWN);
-        }
+    @Says(in = "Promise 11", words = "or if it is not in hand and cannot be taken;")
+    static void takeWhatCannotBeTaken() {
+        DrawerCabinet x = cabinet("ch*1;0h");
         x.lay(0, 0, 0);
         x.lay(1, 0, 1);
-        x.lay(2, 0, 2);
-        x.lay(3, 1, 0);
-        Check.due("11: without a game", x.take(9), NOT_POSSIBLE);
+        x.lay(2, 1, 0);
         x.begin();
-        Check.due("11: from the table", x.take(10), 1);
-        Check.due("11: in hand", x.take(10), NONE);
-        Check.due("11: from a closed drawer", x.take(0), NOT_POSSIBLE);
+        due("in a closed one", x.take(0), NOT_POSSIBLE);
         x.open(0);
-        Check.due("11: from an open one", x.take(0), 2);
-        Check.due("11: under a bottom", x.take(1), NOT_POSSIBLE);
-        x.lift(0);
-        Check.due("11: under two", x.take(2), NOT_POSSIBLE);
-        Check.due("11: under the lifted one", x.take(1), 3);
-        x.lift(0);
+        due("under a bottom", x.take(1), NOT_POSSIBLE);
+        due("in a closed one within", x.take(2), NOT_POSSIBLE);
         x.open(1);
         x.close(0);
-        Check.due("11: all lifted, but closed", x.take(2), NOT_POSSIBLE);
-        Check.due("11: open, but not reached", x.take(3), NOT_POSSIBLE);
-        x.open(0);
-        Check.due("11: under two lifted ones", x.take(2), 4);
-        Check.due("11: from within", x.take(3), 5);
-        Check.due("11: minutes", x.minutes(), 5 * 0.25 + 2 * 2.5 + 4.0);
-        Check.due("11: steps", x.count(5), 11);
-        Check.due("11: from nowhere", x.take(12), UNKNOWN);
-        Check.due("11: in hand though a drawer is closed", x.close(0) + x.take(3), 1 + NONE);
-        x.undo();
-        x.undo();
-        Check.due("11: undone", x.thing(3, 2), 0);
-        Check.due("11: that alone", x.count(5), 10);
+        due("in one that is not reached", x.take(2), NOT_POSSIBLE);
+        due("in hand", x.count(3), 0);
+        due("steps", x.count(5), 3);
     }
 
-    private static void promise12() {
-        DrawerCabinet x = Check.cabinet("ch;0s;cs;ch");
-        for (int drawer : NO_DRAWERS) {
-            Check.due("12: drawer " + drawer, x.seal(drawer), UNKNOWN);
-        }
-        Check.due("12: without a game", x.seal(0), NOT_POSSIBLE);
-        Check.due("12: without a game, whole", x.seal(2), NOT_POSSIBLE);
+    @Says(in = "Promise 11", words = "NONE if it is in hand.")
+    static void takeWhatIsInHand() {
+        DrawerCabinet x = cabinet("ch");
+        x.lay(0, 0, 0);
         x.begin();
-        Check.due("12: no seal", x.seal(0), NONE);
-        Check.due("12: whole", x.seal(2), NONE);
+        x.open(0);
+        x.take(0);
+        due("again", x.take(0), NONE);
+        x.close(0);
+        due("with its drawer closed", x.take(0), NONE);
+        due("steps", x.count(5), 3);
+        due("in hand", x.count(3), 1);
+    }
+
+    @Says(in = "Promise 11", words = "UNKNOWN; NOT_POSSIBLE without a game,")
+    static void takeOrderOfErrors() {
+        due("unknown before no game", cabinet("ch").take(12), UNKNOWN);
+        due("unknown before no game", new DrawerCabinet().take(-1), UNKNOWN);
+    }
+
+    // ---- seal
+
+    @Says(in = "Promise 12", words = {
+        "`int seal(int drawer)`: Lays the broken seal of a drawer again.", "Returns how many seals are broken then;"})
+    static void sealAnswersHowManyAreBroken() {
+        DrawerCabinet x = game("cs;".repeat(15) + "cs");
+        x.take(11);
+        for (int drawer = 0; drawer < 16; drawer++) {
+            x.open(drawer);
+            x.close(drawer);
+        }
+        due("all broken", x.count(4), 16);
+        for (int drawer = 0; drawer < 16; drawer++) {
+            due("seal", x.seal(drawer), 15 - drawer);
+            due("it is whole", x.drawer(drawer, 7), 0);
+        }
+    }
+
+    @Says(in = "Promise 12", words = "Returns how many seals are broken then;")
+    static void sealCountsThoseOfOpenDrawersAndWithin() {
+        DrawerCabinet x = game("ch;0s;cs;cs");
+        x.take(11);
         x.open(0);
         x.open(1);
         x.open(2);
-        Check.due("12: no seal and open", x.seal(0), NONE);
-        x.close(1);
-        Check.due("12: no stamp", x.seal(1), NOT_POSSIBLE);
-        x.take(10);
-        Check.due("12: the knife is no stamp", x.seal(1), NOT_POSSIBLE);
-        x.take(11);
-        Check.due("12: open", x.seal(2), NOT_POSSIBLE);
+        x.open(3);
         x.close(0);
-        Check.due("12: not reached", x.seal(1), NOT_POSSIBLE);
+        x.close(3);
+        due("an open one, and one that is not reached", x.seal(3), 2);
+    }
+
+    @Says(in = "Promise 12", words = "This is an act.")
+    static void sealIsAnAct() {
+        DrawerCabinet x = game("cs;cs");
+        x.take(11);
         x.open(0);
-        Check.due("12: sealed", x.seal(1), 1);
-        Check.due("12: minutes", x.minutes(), 6.0 + 0.5 + 3.0);
-        Check.due("12: whole again", x.seal(1), NONE);
-        x.close(2);
-        Check.due("12: the other one", x.seal(2), 0);
-        Check.due("12: steps", x.count(5), 11);
-        x.undo();
-        Check.due("12: undone", x.count(4), 1);
-        Check.due("12: that alone", x.count(5), 10);
+        x.close(0);
+        Told.recorded(x, 0, y -> y.seal(0));
+        due("whole", x.drawer(0, 7), 0);
+    }
+
+    @Says(in = "Promise 12", words = {"`drawer`: a drawer", "UNKNOWN;"})
+    static void sealNoDrawer() {
+        DrawerCabinet x = game("cs;cs");
+        x.take(11);
+        for (int drawer = 0; drawer < 2; drawer++) {
+            x.open(drawer);
+            x.close(drawer);
+        }
+        due("NONE", x.seal(NONE), UNKNOWN);
+        for (int drawer : noDrawers(2)) {
+            due("drawer " + drawer, x.seal(drawer), UNKNOWN);
+        }
+        due("broken", x.count(4), 2);
+        due("the last one", x.seal(1), 1);
+    }
+
+    @Says(in = "Promise 12", words = "NOT_POSSIBLE without a game,")
+    static void sealWithoutAGame() {
+        DrawerCabinet x = cabinet("cs");
+        due("before a game", x.seal(0), NOT_POSSIBLE);
+        x.begin();
+        x.take(11);
+        x.open(0);
+        x.close(0);
+        x.giveUp();
+        due("after a game", x.seal(0), NOT_POSSIBLE);
+    }
+
+    @Says(in = "Promise 12", words = "or if its seal is broken and cannot be laid;")
+    static void sealWhatCannotBeSealed() {
+        DrawerCabinet x = game("ch;0s;cs");
+        x.open(0);
+        x.open(1);
+        x.open(2);
+        x.close(1);
+        due("without the stamp", x.seal(1), NOT_POSSIBLE);
+        x.take(11);
+        due("open", x.seal(2), NOT_POSSIBLE);
+        x.close(0);
+        due("not reached", x.seal(1), NOT_POSSIBLE);
+        due("broken", x.count(4), 2);
+        due("steps", x.count(5), 6);
+    }
+
+    @Says(in = "Promise 12", words = "NONE if it has no seal,")
+    static void sealWhatHasNoSeal() {
+        DrawerCabinet x = game("ch;ck0;cl0;0h");
+        x.take(11);
+        for (int drawer = 0; drawer < 4; drawer++) {
+            due("closed", x.seal(drawer), NONE);
+        }
+        x.open(0);
+        due("open", x.seal(0), NONE);
+        x.close(0);
+        due("closed again", x.seal(0), NONE);
+        due("steps", x.count(5), 3);
+    }
+
+    @Says(in = "Promise 12", words = "or its seal is whole.")
+    static void sealWhatIsWhole() {
+        DrawerCabinet x = game("cs;ch;1s");
+        due("without the stamp", x.seal(0), NONE);
+        due("not reached", x.seal(2), NONE);
+        x.take(11);
+        due("with the stamp", x.seal(0), NONE);
+        x.open(0);
+        x.close(0);
+        x.seal(0);
+        due("laid again", x.seal(0), NONE);
+        due("steps", x.count(5), 4);
+    }
+
+    @Says(in = "Promise 12", words = "UNKNOWN; NOT_POSSIBLE without a game,")
+    static void sealOrderOfErrors() {
+        DrawerCabinet x = cabinet("cs;ch");
+        due("unknown before no game", x.seal(2), UNKNOWN);
+        due("no game before none: whole", x.seal(0), NOT_POSSIBLE);
+        due("no game before none: no seal", x.seal(1), NOT_POSSIBLE);
     }
 }

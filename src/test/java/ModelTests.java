@@ -5,6 +5,10 @@ public final class ModelTests {
     /** A last act may type a whole text; the 512 calls of an object are not passed by it. */
     private static final int CALLS = 430;
     private static final String SIGNS = "cccc;;;;;hhhklls*0123456789x";
+    private static final int[] STRANGE = {
+        Integer.MIN_VALUE, -32, -16, -6, NONE, -4, -3, -2, -1, 0, 0, 1, 1, 2, 3, 4, 5, 9, 10, 11, 12, 15, 16, 17, 31, 32, 33, 64,
+        Integer.MAX_VALUE,
+    };
 
     private long seed;
     private int run;
@@ -79,6 +83,9 @@ public final class ModelTests {
 
     private int act() {
         boolean game = model.count(1) == 1;
+        if (next(15) == 0) {
+            return wild();
+        }
         int kind = next(100);
         if (kind < 4) {
             return history();
@@ -93,6 +100,33 @@ public final class ModelTests {
             return follow();
         }
         return play();
+    }
+
+    private int strange() {
+        return STRANGE[next(STRANGE.length)];
+    }
+
+    /** A call with arguments from far outside, or from just outside, or fitting by chance. */
+    private int wild() {
+        int a = strange();
+        int b = strange();
+        int c = strange();
+        int d = strange();
+        switch (next(12)) {
+            case 0: due("build", real.build(a, b, c, d), model.build(a, b, c, d)); break;
+            case 1: due("setBottoms", real.setBottoms(a, b), model.setBottoms(a, b)); break;
+            case 2: due("lay", real.lay(a, b, c), model.lay(a, b, c)); break;
+            case 3: due("open", real.open(a), model.open(a)); break;
+            case 4: due("close", real.close(a), model.close(a)); break;
+            case 5: due("lift", real.lift(a), model.lift(a)); break;
+            case 6: due("take", real.take(a), model.take(a)); break;
+            case 7: due("seal", real.seal(a), model.seal(a)); break;
+            case 8: due("drawer", real.drawer(a, b), model.drawer(a, b)); break;
+            case 9: due("thing", real.thing(a, b), model.thing(a, b)); break;
+            case 10: due("needs", real.needs(a, b), model.needs(a, b)); break;
+            default: due("hint", real.hint(a), model.hint(a)); break;
+        }
+        return 1;
     }
 
     private int history() {
@@ -135,7 +169,8 @@ public final class ModelTests {
             text.append(i == 0 ? "" : ";");
             text.append(there + i > 0 && next(2) == 0 ? "" + next(Math.min(16, there + i)) : "c");
             int hold = next(5);
-            text.append(hold == 0 ? "k" + next(10) : hold == 1 ? "l" + next(Math.min(16, there + drawers + next(2))) : hold == 2 ? "s" : "h");
+            int holder = next(Math.min(16, there + drawers + next(2)));
+            text.append(hold == 0 ? "k" + next(10) : hold == 1 ? "l" + holder : hold == 2 ? "s" : "h");
             text.append(next(3) == 0 ? "*" + (1 + next(3)) : "");
         }
         return text.toString();
