@@ -15,6 +15,8 @@ import java.util.Map;
  * words stand there, and that no word of the parts in question is without a test.
  */
 final class Sentences {
+    private static final Path DOCUMENT = Path.of("../shared/DOC.md");
+
     private final Map<String, StringBuilder> parts = new HashMap<>();
     private final Map<String, BitSet> quoted = new HashMap<>();
 
@@ -32,12 +34,23 @@ final class Sentences {
     }
 
     static void run(Class<?> tests, String... parts) {
-        try {
-            new Sentences(Files.readAllLines(Path.of("../shared/DOC.md"))).runAll(tests, parts);
-        } catch (IOException e) {
-            Check.holds("the document can be read", false);
+        Sentences sentences = new Sentences(document());
+        runTests(tests);
+        if (sentences.parts.isEmpty()) {
+            System.out.println(DOCUMENT + " is not there: the tests' words were not looked for");
+        } else {
+            sentences.findWords(tests, parts);
         }
         Check.end();
+    }
+
+    private static List<String> document() {
+        try {
+            return Files.exists(DOCUMENT) ? Files.readAllLines(DOCUMENT) : List.of();
+        } catch (IOException e) {
+            Check.holds(DOCUMENT + " can be read", false);
+            return List.of();
+        }
     }
 
     private void add(String part, String line) {
@@ -48,16 +61,29 @@ final class Sentences {
         }
     }
 
-    private void runAll(Class<?> tests, String... wanted) {
-        List<Method> methods = new ArrayList<>(List.of(tests.getDeclaredMethods()));
-        methods.sort(Comparator.comparing(Method::getName));
-        for (Method method : methods) {
-            Says says = method.getAnnotation(Says.class);
-            if (says != null) {
-                Check.begin(method.getName() + " [" + says.in() + ": " + String.join(" .. ", says.words()) + "]");
-                quote(says);
-                runOne(method);
+    private static List<Method> testsOf(Class<?> tests) {
+        List<Method> methods = new ArrayList<>();
+        for (Method method : tests.getDeclaredMethods()) {
+            if (method.isAnnotationPresent(Says.class)) {
+                methods.add(method);
             }
+        }
+        methods.sort(Comparator.comparing(Method::getName));
+        return methods;
+    }
+
+    private static void runTests(Class<?> tests) {
+        for (Method method : testsOf(tests)) {
+            Says says = method.getAnnotation(Says.class);
+            Check.begin(method.getName() + " [" + says.in() + ": " + String.join(" .. ", says.words()) + "]");
+            runOne(method);
+        }
+    }
+
+    private void findWords(Class<?> tests, String... wanted) {
+        for (Method method : testsOf(tests)) {
+            Check.begin(method.getName());
+            quote(method.getAnnotation(Says.class));
         }
         Check.begin(tests.getName());
         for (String part : wanted) {
